@@ -275,7 +275,7 @@ public final class SongSquares {
             return NOT;
         }
         // The last voice moves nobody, so what it owes itself is all there is more.
-        return now.price(s, now.voicesIn(x), x);
+        return now.priceBy(now.rate, s, now.voicesIn(x), x);
     }
 
     public int bears(int set, int x, int what) {
@@ -408,6 +408,10 @@ public final class SongSquares {
     }
 
     // ---- what the calls share
+
+    private static boolean isIn(int k, int set) {
+        return (set >> k & 1) == 1;
+    }
 
     private int refusalOfVerses(int n) {
         if (n < 1 || n > MOST_VERSES_AT_ONCE) {
@@ -567,10 +571,6 @@ public final class SongSquares {
                 inspectors++;
             }
         }
-    }
-
-    private static boolean isIn(int k, int set) {
-        return (set >> k & 1) == 1;
     }
 
     /** The text, and what reads it up to its first fault. */
@@ -784,12 +784,8 @@ public final class SongSquares {
             return best;
         }
 
-        /** What a singer would owe as a voice of a place, by the rate that is now. */
-        int price(int s, int voice, int x) {
-            return priceBy(rate, s, voice, x);
-        }
-
-        private int priceBy(int r, int s, int voice, int x) {
+        /** What a singer would owe as a voice of a place, by a rate. */
+        int priceBy(int r, int s, int voice, int x) {
             int plain = r * voice * voice;
             switch (register.hasSinger(s) ? register.kind[s] : CHILD) {
                 case GENTRY: return 2 * plain;
@@ -835,7 +831,7 @@ public final class SongSquares {
             int voice = 0;
             for (int s = 0; s < register.singers; s++) {
                 if (isIn(s, set)) {
-                    sum += price(s, voice, x);
+                    sum += priceBy(rate, s, voice, x);
                     voice++;
                 }
             }
@@ -856,7 +852,7 @@ public final class SongSquares {
             int voice = 0;
             for (int s = 0; s < register.singers; s++) {
                 if (isIn(s, set)) {
-                    if (purse[s] < price(s, voice, x)) {
+                    if (purse[s] < priceBy(rate, s, voice, x)) {
                         return false;
                     }
                     voice++;
@@ -1187,7 +1183,7 @@ public final class SongSquares {
                 return FAR;
             }
             int voice = code >> BITS * x & DIGIT;
-            return hall.price(members[k], voice, x) + best[follower];
+            return hall.priceBy(hall.rate, members[k], voice, x) + best[follower];
         }
 
         private static int placedIn(int code) {

@@ -140,6 +140,7 @@ public final class SongSquaresPromises {
         due(3, "the empty text", song.duchy(), 0);
         due(3, "then no duchy", song.verse(1), NOT);
         due(3, "then no rate", song.told(0), 0);
+        due(3, "then no words", song.told(2), 0);
         due(3, "then no singers", song.told(3), 0);
         due(3, "seven and four", tell(song, "d1 1 1;" + "s0 0 0 0;".repeat(7) + "i0;".repeat(4)), 7);
         due(3, "four", song.told(4), 4);
@@ -153,6 +154,7 @@ public final class SongSquaresPromises {
         song.rate(9);
         song.pay(0, 4);
         song.write(0, 1);
+        song.keep(0);
         song.keep(1);
         song.give(0, 5);
         due(3, "caught ahead", song.told(9) > 0 ? 1 : 0, 1);
@@ -173,6 +175,7 @@ public final class SongSquaresPromises {
         due(3, "anew voice", song.singer(0, 4), NONE);
         due(3, "anew inspector", song.place(1, 3), 1);
         due(3, "anew undo()", song.undo(), NOT);
+        due(3, "anew goBack(0)", song.goBack(0), NOT);
         due(3, "anew goBack(1)", song.goBack(1), NOT);
         due(3, "anew seed", song.seed(0), 77);
     }
@@ -252,6 +255,8 @@ public final class SongSquaresPromises {
         due(5, "few of none", told("d1 1 1;").told(13), NONE);
         due(5, "few that do not know all", told("d1 1 3;s0 0 0 3;s0 0 0 1;").told(13), NONE);
         due(5, "few of two", told("d1 1 3;s0 0 0 1;s0 0 0 3;s0 0 0 6;s0 0 0 4;").told(13), 5);
+        due(5, "few of all", told("d1 1 3;s0 0 0 1;s0 0 0 2;s0 0 0 4;").told(13), 7);
+        due(5, "few of seven", told("d1 1 7;s0 0 0 1;s0 0 0 2;s0 0 0 4;s0 0 0 8;s0 0 0 16;s0 0 0 32;s0 0 0 64;").told(13), 127);
         due(5, "few of like ones", told("d1 1 3;s0 0 0 1;s0 0 0 7;s0 0 0 7;").told(13), 2);
         due(5, "deaf without inspectors", told("d1 4 1;").told(11), 15);
     }
@@ -416,6 +421,9 @@ public final class SongSquaresPromises {
         due(10, "hush(5)", song.hush(5), UNKNOWN);
         due(10, "hush(4)", song.hush(4), 0);
         due(10, "who sings", song.told(7), 6);
+        SongSquares last = singing(VILLAGE, 2, 1, 0);
+        due(10, "hush(2)", last.hush(2), 2);
+        due(10, "the least number one ahead", last.singer(0, 4), 1);
     }
 
     private static void go() {
@@ -458,6 +466,7 @@ public final class SongSquaresPromises {
         due(13, "rate(9) again", song.rate(9), 9);
         due(13, "owed by it", song.singer(0, 5), 9);
         due(13, "told", song.told(0), 9);
+        due(13, "rate(1)", told(VILLAGE).rate(1), 2);
         due(13, "can be undone", song.told(19), 4);
     }
 
@@ -495,6 +504,53 @@ public final class SongSquaresPromises {
         one.drift(1);
         due(15, "the seed after two draws", one.seed(0), 1406932606);
         due(15, "joined by 0", one.told(7), 1);
+        for (int start = 0; start < 200; start++) {
+            driftOnce(start);
+        }
+    }
+
+    private static long drawn;
+
+    private static int draw(int n) {
+        drawn = (drawn * 1103515245L + 12345L) % (1L << 31);
+        return (int) (drawn / 65536 % n);
+    }
+
+    /** One verse by draws, where nobody owes: what the draws say is all that happens. */
+    private static void driftOnce(int start) {
+        SongSquares song = singing("d1 4 1;s2 0 0 0;s2 1 10 0;s2 2 20 0;i0;i1;i2;", 0, 1);
+        int seed = start * 7654321;
+        song.seed(seed);
+        song.drift(1);
+        drawn = seed;
+        int event = draw(5);
+        int s = draw(3);
+        int[] places = {0, 1, 2};
+        int[] purses = {0, 10, 20};
+        int[] posts = {1, 1, 1, 0};
+        int sings = 3;
+        if (event == 0) {
+            sings |= 1 << s;
+        } else if (event == 1) {
+            sings &= ~(1 << s);
+        } else if (event == 2) {
+            places[s] = draw(4);
+            sings &= places[s] == s ? -1 : ~(1 << s);
+        } else if (event == 3) {
+            purses[s] += draw(50);
+        } else {
+            posts[draw(3)]--;
+            posts[draw(4)]++;
+        }
+        due(15, "event " + event + " of seed " + seed + ": the seed", song.seed(0), (int) drawn);
+        due(15, "event " + event + " of seed " + seed + ": who sings", song.told(7), sings);
+        for (int i = 0; i < 3; i++) {
+            due(15, "event " + event + " of seed " + seed + ": the place", song.singer(i, 1), places[i]);
+            due(15, "event " + event + " of seed " + seed + ": the purse", song.singer(i, 2), purses[i]);
+        }
+        for (int x = 0; x < 4; x++) {
+            due(15, "event " + event + " of seed " + seed + ": inspectors", song.place(x, 3), posts[x]);
+        }
     }
 
     private static void undo() {
@@ -753,6 +809,9 @@ public final class SongSquaresPromises {
         due(28, "judge(): the third", song.judge(), 2);
         song.give(2, 1);
         due(28, "judge(): the second", song.judge(), 1);
+        song.give(4, 1);
+        due(28, "judge(): the first", song.judge(), 0);
+        song.undo();
         song.undo();
         song.undo();
         due(28, "judge() of what is so again", song.judge(), NONE);
