@@ -13,15 +13,66 @@ public final class SongSquaresModel {
         "give", "rate", "inspect", "drift", "undo", "treasury", "lasts", "more", "bears", "shared", "groups", "rates", "dry",
         "pay", "write", "tear", "judge", "seed", "keep", "goBack"};
 
+    private static final String[] TEXTS = {"", " ", "d2 2 5;s0 0 20 3; s3 1 999 31 ;i1;", "d9 4 9;s0 3 0 511;i3;i0;i0;i0;",
+        "d1 1 1;s0 0 0 0;s0 0 0 0;s0 0 0 0;s0 0 0 0;s0 0 0 0;s0 0 0 0;s0 0 0 0;"};
+
     public static void main(String[] args) {
         int wrong = 0;
         for (int run = 0; run < RUNS && wrong < 20; run++) {
             wrong += oneRun(run);
         }
-        System.out.println(RUNS + " runs against the model, " + wrong + " answers not as due");
+        int texts = 0;
+        for (String text : TEXTS) {
+            texts += nearTexts(text);
+        }
+        wrong += texts;
+        System.out.println(RUNS + " runs against the model and texts a letter apart, " + wrong + " answers not as due");
         if (wrong != 0) {
             System.exit(1);
         }
+    }
+
+    /** Every text that a letter put in, changed, left out, or an early end makes of one. */
+    private static int nearTexts(String text) {
+        int wrong = 0;
+        for (int at = 0; at <= text.length(); at++) {
+            String head = text.substring(0, at);
+            String tail = text.substring(at);
+            String rest = tail.isEmpty() ? tail : tail.substring(1);
+            wrong += read(head);
+            wrong += read(head + rest);
+            for (int letter = 0; letter < 256; letter++) {
+                wrong += read(head + (char) letter + tail);
+                wrong += read(head + (char) letter + rest);
+            }
+        }
+        return wrong;
+    }
+
+    private static int read(String text) {
+        SongSquares song = new SongSquares();
+        Model model = new Model();
+        for (int i = 0; i < text.length(); i++) {
+            song.feed(text.charAt(i));
+            model.feed(text.charAt(i));
+        }
+        boolean same = song.duchy() == model.duchy() && song.fault() == model.faultAt;
+        for (int what = 0; what < 5; what++) {
+            same &= song.told(what) == model.told(what);
+        }
+        if (!same) {
+            System.out.println("another reading of the text " + text);
+        }
+        return same ? 0 : 1;
+    }
+
+    /** Calls that bring a run near the bounds: of verses, of purses, of what can be undone. */
+    private static int[][] prelude(int run) {
+        int[][] calls = new int[run % 6 == 3 ? 151 : run % 6 == 4 ? 60 : 0][];
+        for (int i = 0; i < calls.length; i++) {
+            calls[i] = run % 6 == 3 ? new int[] {6, i == 150 ? run % 2 : 60, 0, 0} : new int[] {10, i % 6, 999, 0};
+        }
+        return calls;
     }
 
     private static int oneRun(int run) {
@@ -30,6 +81,8 @@ public final class SongSquaresModel {
         Model model = new Model();
         StringBuilder waiting = new StringBuilder(run % 5 == 0 ? "" : text(random));
         boolean tell = waiting.length() > 0;
+        int[][] prelude = prelude(run);
+        int led = 0;
         for (int call = 0; call < CALLS; call++) {
             int which;
             int[] a = {0, 0, 0};
@@ -40,6 +93,10 @@ public final class SongSquaresModel {
             } else if (tell) {
                 which = 1;
                 tell = false;
+            } else if (led < prelude.length) {
+                which = prelude[led][0];
+                System.arraycopy(prelude[led], 1, a, 0, 3);
+                led++;
             } else if (random.nextInt(150) == 0) {
                 which = 0;
                 waiting.append(text(random));
