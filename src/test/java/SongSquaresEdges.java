@@ -231,7 +231,11 @@ public final class SongSquaresEdges {
         due("-1000000001 and on: NOT", SongSquares.NOT, NOT);
         due("-1000000001 and on: FULL", SongSquares.FULL, FULL);
         SongSquares song = new SongSquares();
-        due("Promise 1: no DUCHY: no RATE", song.told(0), 0);
+        int[] none = {0, 0, 0, 0, 0, 0, 0, 0, 0, 0, 0, 0, NONE, NONE, 0, 1, 0, NONE, 0, 0};
+        for (int what = 0; what < none.length; what++) {
+            due("Promise 1: no DUCHY: told(" + what + ")", song.told(what), none[what]);
+        }
+        due("Promise 1: nothing PAID, no BOOK", song.tear(), 0);
         due("Promise 1: no DUCHY: no PLACE", song.place(0, 0), UNKNOWN);
         due("Promise 1: no DUCHY: no SINGER", song.singer(0, 0), UNKNOWN);
         due("Promise 1: no DUCHY: no FAULT", song.fault(), NONE);
@@ -689,6 +693,16 @@ public final class SongSquaresEdges {
             due("(the end at the text's length) of " + part + ": where", song.fault(), whole ? NONE : length);
         }
         fault("d" + " ".repeat(239), 1, 240);
+        // A text that was longer is gone: nothing of it is read behind the end of the next.
+        SongSquares song = new SongSquares();
+        for (String part : new String[] {"d1 1 1", "d1 1 1;i0", "d1 1 1;s0 0 0 0", "d1 1 1;s0 0 ", "d1 "}) {
+            due("a longer text ahead of " + part, tell(song, "d1 1 1;i0;s0 0 0 0;"), 1);
+            due("3 it is empty then: 1 behind " + part, tell(song, part), -11);
+            due("3 it is empty then: where behind " + part, song.fault(), part.length());
+            due("a like text ahead of " + part, tell(song, part + ";0;0;0;0;"), -11);
+            due("3 it is empty then: 1 behind " + part, tell(song, part), -11);
+            due("3 it is empty then: where behind " + part, song.fault(), part.length());
+        }
     }
 
     private static void tooMany() {
@@ -788,6 +802,10 @@ public final class SongSquaresEdges {
         SongSquares last = singing("d1 1 1;s0 0 9 0;s0 0 0 0;s0 0 0 0;s0 0 0 0;", 3, 2, 1, 0);
         due("as the VERSE begins, numbers falling", last.verse(1), 9);
         due("those behind come ahead, numbers falling", last.singer(0, 4), 1);
+
+        SongSquares least = singing("d1 1 1;s0 0 0 0;s0 0 0 0;", 1, 0);
+        due("SINGER 0 has not so much", least.verse(1), 0);
+        due("SINGER 0 is HUSHED", least.told(7), 2);
 
         SongSquares song = told("d1 1 1;");
         due("VERSES (0 at first)", song.told(6), 0);
@@ -1056,6 +1074,11 @@ public final class SongSquaresEdges {
         due("21 NONE: a WORD nobody knows: how many", one.shared(4, NONE), NONE);
         due("21 NONE: nobody", one.shared(0, NONE), NONE);
         due("21 OUTSIDE: L", one.shared(7, 1), OUTSIDE);
+        SongSquares seven = told("d1 1 7;s0 0 0 64;s0 0 0 32;s0 0 0 16;s0 0 0 8;s0 0 0 4;s0 0 0 2;s0 0 0 1;");
+        due("21 seven SINGERS, a WORD each", seven.shared(127, NONE), 6);
+        for (int word = 0; word < 7; word++) {
+            due("21 seven SINGERS: the one of " + word, seven.shared(127, word), 6 - word);
+        }
         SongSquares nine = told("d1 1 9;s0 0 0 341;s0 0 0 170;");
         due("21 nine WORDS in turn", nine.shared(3, NONE), 8);
         for (int word = 0; word < 9; word++) {
@@ -1072,6 +1095,7 @@ public final class SongSquaresEdges {
         SongSquares later = told("d1 1 3;s0 0 0 6;s0 0 0 3;");
         due("21 the first such row: word 0", later.shared(3, 0), 1);
         due("21 the first such row: word 1", later.shared(3, 1), 0);
+        due("13 FEW: all seven", told("d1 1 7;s0 0 0 1;s0 0 0 2;s0 0 0 4;s0 0 0 8;s0 0 0 16;s0 0 0 32;s0 0 0 64;").told(13), 127);
         due("13 FEW: one", told("d1 1 9;s0 0 0 510;s0 0 0 511;s0 0 0 511;").told(13), 2);
         due("13 FEW: all but one WORD", told("d1 1 9;s0 0 0 510;s0 0 0 254;").told(13), NONE);
         due("13 FEW: NONE without SINGERS", told("d1 1 1;").told(13), NONE);
@@ -1098,6 +1122,11 @@ public final class SongSquaresEdges {
             due("22 SINGER by SINGER the lesser PLACE: " + s, four.groups(127, s), places[s]);
         }
         due("22 the last PLACE", four.groups(120, 6), 3);
+        due("22 six of seven", four.groups(63, NONE), 2);
+        tell(four, "d1 1 1;" + SEVEN);
+        due("22 another DUCHY: seven in one PLACE", four.groups(127, NONE), 91);
+        due("22 another DUCHY: one", four.groups(64, NONE), 0);
+        due("22 another DUCHY: seven again", four.groups(127, NONE), 91);
         SongSquares children = told("d9 4 1;" + "s2 3 0 0;".repeat(7));
         due("22 children OWE nothing", children.groups(127, NONE), 0);
         due("22 children: the lesser PLACE", children.groups(127, 6), 0);
@@ -1118,6 +1147,10 @@ public final class SongSquaresEdges {
             due("23 a penny more than by " + r, song.rates(5 * r + 1), r == 9 ? NONE : r + 1);
         }
         due("23 v 999999", song.rates(999999), NONE);
+        due("23 SINGER 0 pays", singing("d1 1 1;s0 0 9 0;s0 0 0 0;", 1, 0).rates(9), 9);
+        SongSquares seven = singing("d1 1 1;" + "s0 0 999 0;".repeat(7), 0, 1, 2, 3, 4, 5, 6);
+        due("23 seven VOICES", seven.rates(9 * 91), 9);
+        due("23 seven VOICES: a penny more", seven.rates(9 * 91 + 1), NONE);
         SongSquares poor = singing("d1 1 1;s0 0 0 0;s0 0 3 0;", 0, 1);
         due("23 would pay, by PURSE", poor.rates(3), 3);
         due("23 would pay, by PURSE: a penny more", poor.rates(4), NONE);
@@ -1215,6 +1248,14 @@ public final class SongSquaresEdges {
         seven.tear();
         seven.pay(0, 9999);
         due("15 CHOIRS: nobody OWES so much", seven.told(15), 0);
+        // A second voice hums: one penny of two by no ear, both by one.
+        SongSquares ears = told("d2 2 1;s0 0 0 0;s3 0 0 0;i1;");
+        ears.pay(0, 1);
+        due("15 in a told PLACE: no INSPECTOR", ears.told(15), 1);
+        ears.pay(1, 2);
+        due("15 in told PLACES: by each", ears.told(15), 1);
+        ears.inspect(0, 0);
+        due("15 INSPECTORS as now", ears.told(15), 0);
         SongSquares none = told("d1 1 1;");
         due("15 CHOIRS without SINGERS: the empty SET", none.told(15), 1);
         none.pay(0, 0);
@@ -1272,6 +1313,16 @@ public final class SongSquaresEdges {
             long b = (a * 1103515245L + 12345L) % 2147483648L;
             long c = (b * 1103515245L + 12345L) % 2147483648L;
             if (a / 65536 % 5 == event && b / 65536 % singers == singer && (of == 0 || c / 65536 % of == third)) {
+                return seed;
+            }
+        }
+        return NONE;
+    }
+
+    /** A seed by which inspector 1 of two goes to a place of two. */
+    private static int seedToSend(int to) {
+        for (int seed = 0; seed < 1000000; seed++) {
+            if (afterDraws(seed, 1) / 65536 % 5 == 4 && afterDraws(seed, 3) / 65536 % 2 == 1 && afterDraws(seed, 4) / 65536 % 2 == to) {
                 return seed;
             }
         }
@@ -1339,11 +1390,13 @@ public final class SongSquaresEdges {
         SongSquares deaf = drifted(text, seed, 0, 1);
         due("on 4, if there are INSPECTORS: two DRAWS without", deaf.seed(0), afterDraws(seed, 2));
         due("on 4 without INSPECTORS", deaf.told(7), 3);
-        SongSquares ears = drifted(text + "i0;i0;", seedFor(4, 0, 2, 1, 2), 0, 1);
-        int grain = seedFor(4, 0, 2, 1, 2);
-        int to = afterDraws(grain, 4) / 65536 % 2;
-        due("on 4 a DRAW of these goes to a DRAW of PLACES", ears.place(to, 3), to == 0 ? 2 : 1);
-        due("on 4: four DRAWS", ears.seed(0), afterDraws(grain, 4));
+        for (int to = 0; to < 2; to++) {
+            seed = seedToSend(to);
+            SongSquares ears = drifted(text + "i1;i" + (1 - to) + ";", seed, 0, 1);
+            due("on 4 a DRAW of these goes to a DRAW of PLACES", ears.place(to, 3), to == 0 ? 1 : 2);
+            due("on 4: four DRAWS", ears.seed(0), afterDraws(seed, 4));
+            due("on 4: SINGERS stay", ears.told(7), 3);
+        }
         // What is drawn stands ahead of the verse, so a singer that joins pays in it.
         SongSquares pays = drifted("d7 1 1;s0 0 9 0;s0 0 9 0;", seedFor(0, 1, 2, 0, 0), 0);
         due("ahead of each VERSE: THE TREASURY", pays.told(8), 7);
