@@ -12,7 +12,7 @@ import java.util.TreeSet;
 import java.util.regex.Matcher;
 import java.util.regex.Pattern;
 
-/** The public face as the document writes it, and what LANGUAGE.md rules out that can be seen from outside. */
+/** The public face as the document writes it, and README.md: its examples answer what it says there. */
 public final class SongSquaresFace {
     private static final String[] METHODS = {"feed 1", "duchy 0", "fault 0", "told 1", "singer 2", "place 2", "verse 1", "join 1",
         "hush 1", "go 2", "give 2", "rate 1", "inspect 2", "drift 1", "undo 0", "treasury 1", "lasts 1", "more 2", "bears 3",
@@ -29,25 +29,24 @@ public final class SongSquaresFace {
         }
     }
 
-    public static void main(String[] args) throws IOException, IllegalAccessException {
+    public static void main(String[] args) throws IOException, ReflectiveOperationException {
         face();
-        classesInside();
-        source(Files.readString(Path.of("src/main/java/SongSquares.java")));
-        System.out.println(wrong == 0 ? "the face is as due" : wrong + " faults of the face");
+        fields();
+        String readme = Files.readString(Path.of("README.md"));
+        check(examples(readme) >= 10, "README.md has examples");
+        namesAll(readme);
+        System.out.println(wrong == 0 ? "the face and README.md are as due" : wrong + " faults of the face or of README.md");
         if (wrong != 0) {
             System.exit(1);
         }
     }
 
-    private static void face() throws IllegalAccessException {
+    private static void face() {
         int modifiers = SongSquares.class.getModifiers();
         check(Modifier.isPublic(modifiers) && Modifier.isFinal(modifiers), "the class is public and final");
         Set<String> found = new TreeSet<>();
-        Set<String> hidden = new TreeSet<>();
         for (Method method : SongSquares.class.getDeclaredMethods()) {
-            if (Modifier.isPrivate(method.getModifiers())) {
-                hidden.add(method.getName());
-            } else {
+            if (!Modifier.isPrivate(method.getModifiers())) {
                 check(Modifier.isPublic(method.getModifiers()) && !Modifier.isStatic(method.getModifiers()), method + " is public");
                 check(method.getReturnType() == int.class, method + " answers an int");
                 for (Class<?> parameter : method.getParameterTypes()) {
@@ -57,21 +56,15 @@ public final class SongSquaresFace {
             }
         }
         check(found.equals(new TreeSet<>(List.of(METHODS))), "the methods are " + found);
-        for (String method : METHODS) {
-            check(!hidden.contains(method.substring(0, method.indexOf(' '))), "a private method is named as " + method);
-        }
         Constructor<?>[] constructors = SongSquares.class.getDeclaredConstructors();
         check(constructors.length == 1 && Modifier.isPublic(constructors[0].getModifiers())
             && constructors[0].getParameterCount() == 0, "one public constructor");
-        fields();
     }
 
     private static void fields() throws IllegalAccessException {
         List<String> seen = new ArrayList<>();
         for (Field field : SongSquares.class.getDeclaredFields()) {
-            if (Modifier.isPrivate(field.getModifiers())) {
-                check(!Modifier.isStatic(field.getModifiers()) || Modifier.isFinal(field.getModifiers()), field + " is final");
-            } else {
+            if (!Modifier.isPrivate(field.getModifiers())) {
                 seen.add(field.getName());
                 int at = List.of(CONSTANTS).indexOf(field.getName());
                 check(at >= 0 && Modifier.isPublic(field.getModifiers()) && Modifier.isStatic(field.getModifiers())
@@ -81,39 +74,56 @@ public final class SongSquaresFace {
         check(seen.size() == CONSTANTS.length, "all constants are there");
     }
 
-    private static void classesInside() {
-        Class<?>[] inside = SongSquares.class.getDeclaredClasses();
-        check(inside.length + 1 <= 12, "at most some twelve classes");
-        for (Class<?> one : inside) {
-            check(Modifier.isStatic(one.getModifiers()) && !Modifier.isPublic(one.getModifiers()), one + " is static and not public");
-            int own = 0;
-            for (Field field : one.getDeclaredFields()) {
-                own += Modifier.isStatic(field.getModifiers()) ? 0 : 1;
-                check(!Modifier.isStatic(field.getModifiers()) || Modifier.isFinal(field.getModifiers()), field + " is final");
-            }
-            check(own <= 20, one + " has at most some twenty fields");
-            for (Method method : one.getDeclaredMethods()) {
-                check(method.getParameterCount() <= 7, method + " has at most seven parameters");
+    /** Makes every call of README.md's examples that tells its answer behind '// '; how many there were. */
+    private static int examples(String readme) throws ReflectiveOperationException {
+        SongSquares song = new SongSquares();
+        int calls = 0;
+        boolean code = false;
+        for (String line : readme.split("\n")) {
+            if (line.startsWith("```")) {
+                code = line.equals("```java");
+            } else if (code) {
+                calls += exampleLine(song, line);
             }
         }
+        return calls;
     }
 
-    private static void source(String text) {
-        String code = text.replaceAll("(?s)/\\*.*?\\*/", "").replaceAll("//[^\n]*", "");
-        String[] forbidden = {"throw", "throws", "try", "catch", "finally", "synchronized", "assert", "import", "package", "protected",
-            "native", "volatile", "transient", "Exact", "Thread", "Object", "lambda", "yield"};
-        for (String word : forbidden) {
-            Matcher m = Pattern.compile("\\b" + word + "\\b").matcher(code);
-            check(!m.find(), "the word " + word + " stands in the source");
+    private static int exampleLine(SongSquares song, String line) throws ReflectiveOperationException {
+        Matcher text = Pattern.compile("\"([^\"]*)\"").matcher(line);
+        if (text.find()) {
+            for (char letter : text.group(1).toCharArray()) {
+                song.feed(letter);
+            }
         }
-        check(!code.contains("->") && !code.contains("::"), "no lambda, no method reference");
-        Matcher library = Pattern.compile("\\b(System|Math|Integer|Long|Arrays)\\.(\\w+)").matcher(code);
-        Set<String> allowed = Set.of("System.arraycopy", "Math.min", "Math.max", "Integer.bitCount");
-        while (library.find()) {
-            check(allowed.contains(library.group()), library.group() + " is used");
+        Matcher call = Pattern.compile("song\\.(\\w+)\\(([^)]*)\\);\\s+// (\\w+).*").matcher(line);
+        if (!call.matches()) {
+            return 0;
         }
-        for (int i = 0; i < text.length(); i++) {
-            check(text.charAt(i) < 128, "a sign beyond 127 at " + i);
+        String[] words = call.group(2).isEmpty() ? new String[0] : call.group(2).split(", ");
+        Object[] arguments = new Object[words.length];
+        Class<?>[] types = new Class<?>[words.length];
+        for (int i = 0; i < words.length; i++) {
+            arguments[i] = number(words[i]);
+            types[i] = int.class;
+        }
+        Object got = SongSquares.class.getMethod(call.group(1), types).invoke(song, arguments);
+        check(got.equals(number(call.group(3))), "README.md: " + line + " answered " + got);
+        return 1;
+    }
+
+    private static int number(String word) {
+        int at = List.of(CONSTANTS).indexOf(word.replace("SongSquares.", ""));
+        return at >= 0 ? VALUES[at] : Integer.parseInt(word);
+    }
+
+    private static void namesAll(String readme) {
+        for (String method : METHODS) {
+            String name = method.substring(0, method.indexOf(' '));
+            check(readme.contains("`" + name + "("), "README.md does not tell of " + name);
+        }
+        for (String constant : CONSTANTS) {
+            check(readme.contains("`" + constant + "`"), "README.md does not tell of " + constant);
         }
     }
 }
