@@ -216,6 +216,9 @@ public final class SongSquaresEdges {
         undone();
         images();
         anew();
+        faultLeavesAll();
+        lastOfEach();
+        placesApart();
         System.out.println(checks + " edges, " + wrong + " wrong");
         if (wrong != 0) {
             System.exit(1);
@@ -1566,5 +1569,148 @@ public final class SongSquaresEdges {
         song.pay(1, 2);
         song.write(0, 2);
         song.drift(9);
+    }
+
+    /** An answer of every call but fault(), many of most, in fewer calls than an object has. */
+    private static List<Integer> wholeFace(SongSquares song) {
+        List<Integer> seen = new ArrayList<>();
+        for (int what = 0; what < 20; what++) {
+            seen.add(song.told(what));
+        }
+        for (int s = 0; s < 7; s++) {
+            for (int what = 0; what < 6; what++) {
+                seen.add(song.singer(s, what));
+            }
+            seen.add(song.lasts(s));
+            for (int x = 0; x < 4; x++) {
+                seen.add(song.more(s, x));
+            }
+        }
+        for (int x = 0; x < 4; x++) {
+            for (int what = 0; what < 4; what++) {
+                seen.add(song.place(x, what));
+            }
+        }
+        for (int set = 0; set <= 128; set += 9) {
+            seen.add(song.bears(set, set % 4, 1));
+            seen.add(song.shared(set, set % 10 - 1));
+            seen.add(song.groups(set, set % 8 - 1));
+        }
+        seen.add(song.treasury(200));
+        seen.add(song.rates(30));
+        seen.add(song.judge());
+        for (int i = 0; i < 4; i++) {
+            seen.add(song.inspect(i, (i + 1) % 4));
+            seen.add(song.pay(i, i));
+            seen.add(song.go(6 - i, i));
+            seen.add(song.give(6 - i, 7));
+            seen.add(song.write(3 + i, 3 + i));
+        }
+        seen.add(song.rate(8));
+        seen.add(song.drift(60));
+        look(song, seen);
+        for (int i = 0; i < 3; i++) {
+            seen.add(song.undo());
+            look(song, seen);
+        }
+        seen.add(song.goBack(0));
+        look(song, seen);
+        return seen;
+    }
+
+    /** Three places of four, singers of every kind, two of four inspectors. */
+    private static void town(SongSquares song) {
+        tell(song, "d3 3 5;s0 2 40 3;s1 2 90 6;s3 2 30 12;s2 0 7 16;s0 1 60 24;s3 1 50 31;i2;i0;");
+        song.seed(2026);
+        for (int s : new int[] {1, 0, 2, 4, 5}) {
+            song.join(s);
+        }
+        song.verse(1);
+        song.keep(0);
+        song.join(3);
+        song.pay(2, 3);
+        song.write(0, 37);
+    }
+
+    private static void faultLeavesAll() {
+        String all = "d9 4 9;" + "s3 3 99 7;".repeat(7);
+        for (String text : new String[] {"x", "d9 1 1;x", "d1 1 1;s2 0 0 1;i0;d", all + "i0;i1;i2;i3;x", all + "s"}) {
+            SongSquares twin = made(SongSquaresEdges::town);
+            due("3 a FAULT in " + text, tell(twin, text) < -10 ? 1 : 0, 1);
+            same("3 (all else is as it was) behind " + text, wholeFace(twin), wholeFace(made(SongSquaresEdges::town)));
+        }
+        for (String text : new String[] {"x", all + "x"}) {
+            SongSquares none = new SongSquares();
+            due("3 a FAULT without a DUCHY", tell(none, text), -11);
+            due("3 no DUCHY as it was: verse", none.verse(1), NOT);
+            due("3 no DUCHY as it was: rate", none.rate(1), NOT);
+            due("3 no DUCHY as it was: drift", none.drift(1), NOT);
+            due("3 no DUCHY as it was: treasury", none.treasury(1), NOT);
+            due("3 no DUCHY as it was: shared", none.shared(0, NONE), NOT);
+            due("3 no DUCHY as it was: a WORD", none.shared(0, 0), OUTSIDE);
+            due("3 no DUCHY as it was: groups", none.groups(0, NONE), NOT);
+            due("3 no DUCHY as it was: FEW", none.told(13), NONE);
+            due("3 no DUCHY as it was: CHOIRS", none.told(15), 1);
+            due("3 no DUCHY as it was: pay", none.pay(0, 0), UNKNOWN);
+            due("3 no DUCHY as it was: inspect", none.inspect(0, 0), UNKNOWN);
+        }
+    }
+
+    /** The seventh singer and the fourth inspector are undone, kept and brought back as the first are. */
+    private static void lastOfEach() {
+        String text = "d1 2 1;s0 0 5 0;s0 0 5 0;s0 0 5 0;s0 0 5 0;s0 0 5 0;s0 0 5 0;s0 1 5 0;i0;i0;i0;i0;";
+        Call[] deeds = {x -> x.give(6, 4), x -> x.join(6), x -> x.inspect(3, 1), x -> x.go(6, 0)};
+        int[][] then = {{1, 9, NONE, 0}, {1, 5, 0, 0}, {1, 5, NONE, 1}, {0, 5, NONE, 0}};
+        for (int i = 0; i < deeds.length; i++) {
+            SongSquares song = told(text);
+            deeds[i].on(song);
+            lastIs("done, deed " + i, song, then[i]);
+            song.undo();
+            lastIs("undone, deed " + i, song, new int[] {1, 5, NONE, 0});
+            deeds[i].on(song);
+            song.keep(1);
+            tellLast(song);
+            song.goBack(1);
+            lastIs("gone back to, deed " + i, song, then[i]);
+            due("tried from what is so, deed " + i, song.lasts(6), then[i][2] == NONE ? 0 : NONE);
+        }
+    }
+
+    /** Makes the last singer and inspector otherwise in all there is of them. */
+    private static void tellLast(SongSquares song) {
+        song.give(6, 99);
+        song.inspect(3, 1 - song.place(1, 3));
+        song.go(6, 1 - song.singer(6, 1));
+        song.join(0);
+        song.join(6);
+    }
+
+    private static void lastIs(String when, SongSquares song, int[] want) {
+        due("the last SINGER " + when + ": the PLACE", song.singer(6, 1), want[0]);
+        due("the last SINGER " + when + ": the PURSE", song.singer(6, 2), want[1]);
+        due("the last SINGER " + when + ": the VOICE", song.singer(6, 4), want[2]);
+        due("the last INSPECTOR " + when, song.place(1, 3), want[3]);
+    }
+
+    /** What is so in a place is so by those in it alone, be its number below or above the others'. */
+    private static void placesApart() {
+        String text = "d1 3 1;s0 0 9 0;s0 0 9 0;s0 1 9 0;s0 1 9 0;s0 1 9 0;s0 2 9 0;s0 2 9 0;";
+        int[] first = {0, 2, 5};
+        int[] owed = {1, 5, 1};
+        for (int x = 0; x < 3; x++) {
+            SongSquares song = singing(text, 0, 1, 2, 3, 4, 5, 6);
+            due("7 what is OWED there: " + x, song.place(x, 2), owed[x]);
+            due("10 VOICES there then: " + x, song.hush(first[x]), x == 1 ? 2 : 1);
+            for (int s = 0; s < 7; s++) {
+                int home = s < 2 ? 0 : s < 5 ? 1 : 2;
+                int want = s == first[x] ? NONE : s - first[home] - (home == x ? 1 : 0);
+                due("10 those behind, but nowhere else: " + s, song.singer(s, 4), want);
+            }
+        }
+        // A place whose number is no singer's.
+        SongSquares two = singing("d4 4 1;s0 3 9 0;s3 3 9 0;i3;", 0, 1);
+        due("7 what is OWED in the last PLACE", two.place(3, 2), 4);
+        due("7 what is OWED in the PLACE ahead", two.place(2, 2), 0);
+        due("12 RICHEST: the first, the others have less", told("d1 1 1;s0 0 5 0;s0 0 3 0;s0 0 4 0;").told(12), 0);
     }
 }

@@ -7,11 +7,14 @@ import java.util.Random;
 /** Drawn runs of calls, each answered by the class and by a plain second model of the document. */
 public final class SongSquaresModel {
     private static final int NONE = -1, UNKNOWN = -1000000001, OUTSIDE = -1000000002, NOT = -1000000003, FULL = -1000000004;
-    private static final int RUNS = 400, CALLS = 512;
+    private static final int RUNS = 1000, CALLS = 512;
 
     private static final String[] NAMES = {"feed", "duchy", "fault", "told", "singer", "place", "verse", "join", "hush", "go",
         "give", "rate", "inspect", "drift", "undo", "treasury", "lasts", "more", "bears", "shared", "groups", "rates", "dry",
         "pay", "write", "tear", "judge", "seed", "keep", "goBack"};
+
+    /** How often each call is drawn: joining most, so that there is something to ask for; never a letter of a text. */
+    private static final int[] WEIGHTS = {0, 0, 1, 10, 4, 3, 3, 8, 2, 2, 2, 2, 2, 2, 3, 2, 3, 3, 4, 4, 4, 3, 1, 4, 4, 1, 4, 1, 1, 1};
 
     private static final String[] TEXTS = {"", " ", "d2 2 5;s0 0 20 3; s3 1 999 31 ;i1;", "d9 4 9;s0 3 0 511;i3;i0;i0;i0;",
         "d1 1 1;s0 0 0 0;s0 0 0 0;s0 0 0 0;s0 0 0 0;s0 0 0 0;s0 0 0 0;s0 0 0 0;"};
@@ -103,8 +106,8 @@ public final class SongSquaresModel {
                 tell = true;
                 a[0] = ' ';
             } else {
-                which = 2 + random.nextInt(NAMES.length - 2);
-                arguments(which, a, random);
+                which = drawnCall(random);
+                arguments(NAMES[which], a, random, model);
             }
             int got = ofClass(song, which, a);
             int want = model.answer(which, a);
@@ -132,7 +135,7 @@ public final class SongSquaresModel {
         for (int i = 0; i < inspectors; i++) {
             b.append('i').append(random.nextInt(n)).append(random.nextBoolean() ? " ;" : ";");
         }
-        if (random.nextInt(3) == 0) {
+        if (random.nextInt(6) == 0) {
             String letters = "dsi; 0123456789x";
             for (int i = 1 + random.nextInt(2); i > 0; i--) {
                 int at = random.nextInt(b.length());
@@ -148,31 +151,70 @@ public final class SongSquaresModel {
         return b.toString();
     }
 
-    private static void arguments(int which, int[] a, Random random) {
-        for (int i = 0; i < 3; i++) {
-            a[i] = random.nextInt(8) - (random.nextInt(8) == 0 ? 2 : 0);
+    private static int drawnCall(Random random) {
+        int sum = 0;
+        for (int weight : WEIGHTS) {
+            sum += weight;
         }
-        switch (NAMES[which]) {
-            case "told": a[0] = random.nextInt(22) - 1; break;
+        int left = random.nextInt(sum);
+        for (int which = 0; which < WEIGHTS.length; which++) {
+            left -= WEIGHTS[which];
+            if (left < 0) {
+                return which;
+            }
+        }
+        return 0;
+    }
+
+    /** Mostly one of so many, now and then one a little beyond. */
+    private static int oneOf(int many, Random random) {
+        return random.nextInt(15) == 0 || many == 0 ? random.nextInt(many + 3) - 1 : random.nextInt(many);
+    }
+
+    private static int part(int singers, Random random) {
+        int set = random.nextInt(1 << singers) | (random.nextBoolean() ? random.nextInt(1 << singers) : 0);
+        return random.nextInt(15) == 0 ? set + (1 << random.nextInt(32)) : set;
+    }
+
+    private static int rarely(int often, int seldom, Random random) {
+        return random.nextInt(15) == 0 ? seldom : often;
+    }
+
+    private static void arguments(String name, int[] a, Random random, Model model) {
+        World w = model.w;
+        int singers = w.people.size();
+        a[0] = oneOf(singers, random);
+        a[1] = oneOf(w.places, random);
+        switch (name) {
+            case "told": a[0] = oneOf(20, random); break;
+            case "singer": a[1] = oneOf(6, random); break;
+            case "place": a[0] = oneOf(w.places, random); a[1] = oneOf(4, random); break;
             case "verse": case "drift": a[0] = random.nextInt(6) == 0 ? random.nextInt(64) : 1 + random.nextInt(4); break;
-            case "go": case "inspect": case "more": case "place": a[1] = random.nextInt(5) - random.nextInt(20) / 19; break;
-            case "give": a[1] = random.nextInt(10) == 0 ? random.nextInt(1002) : random.nextInt(40); break;
-            case "rate": a[0] = random.nextInt(11); break;
-            case "treasury": a[0] = random.nextInt(203) - 1; break;
-            case "bears": a[0] = random.nextInt(130); a[1] = random.nextInt(5); a[2] = random.nextInt(3); break;
-            case "shared": a[0] = random.nextInt(130); a[1] = random.nextInt(11) - 1; break;
-            case "groups": a[0] = random.nextInt(130); a[1] = random.nextInt(9) - 1; break;
-            case "rates": a[0] = random.nextInt(10) == 0 ? random.nextInt() : random.nextInt(400); break;
-            case "dry": a[0] = random.nextInt(63) - 1; a[1] = random.nextInt(103) - 1; break;
-            case "pay": a[0] = random.nextInt(5); a[1] = random.nextInt(10) == 0 ? random.nextInt(10002) - 1 : random.nextInt(80); break;
-            case "write": a[1] = random.nextInt(10) == 0 ? random.nextInt(10002) - 1 : random.nextInt(60); break;
-            case "seed": a[0] = random.nextInt(); break;
-            case "keep": case "goBack": a[0] = random.nextInt(3); break;
+            case "give": a[1] = rarely(1 + random.nextInt(40), random.nextInt(1002), random); break;
+            case "rate": a[0] = rarely(1 + random.nextInt(9), random.nextInt(12) - 1, random); break;
+            case "inspect": a[0] = oneOf(w.inspectors.size(), random); break;
+            case "treasury": a[0] = random.nextInt(random.nextBoolean() ? 10 : 203) - (random.nextInt(20) == 0 ? 1 : 0); break;
+            case "bears": a[0] = part(singers, random); a[2] = oneOf(2, random); break;
+            case "shared": a[0] = part(singers, random); a[1] = oneOf(model.words + 1, random) - 1; break;
+            case "groups": a[0] = part(singers, random); a[1] = oneOf(singers + 1, random) - 1; break;
+            // Nine rates by all that is owed by one of them: most answers lie in between.
+            case "rates": a[0] = rarely(random.nextInt(9 * model.owed(NONE) / Math.max(1, w.rate) + 2), random.nextInt(), random); break;
+            case "dry": a[0] = random.nextInt(random.nextBoolean() ? 6 : 63) - 1; a[1] = random.nextInt(103) - 1; break;
+            case "pay": a[0] = oneOf(w.places, random); a[1] = rarely(fitting(a[0], random, model), random.nextInt(10002) - 1, random); break;
+            case "write": a[1] = rarely(model.singer(a[0]) ? w.people.get(a[0]).purse : 0, random.nextInt(10002) - 1, random); break;
+            case "seed": a[0] = rarely(random.nextInt() & Integer.MAX_VALUE, random.nextInt(), random); break;
+            case "keep": case "goBack": a[0] = oneOf(2, random); break;
             default: break;
         }
-        if (random.nextInt(60) == 0) {
+        if (random.nextInt(200) == 0) {
             a[random.nextInt(3)] = random.nextBoolean() ? Integer.MIN_VALUE : Integer.MAX_VALUE;
         }
+    }
+
+    /** What one and the same set, the same for the whole run, would owe in a place: choirs that are not all ruled out. */
+    private static int fitting(int x, Random random, Model model) {
+        int all = (1 << model.w.people.size()) - 1;
+        return model.w.row((random.nextInt(6) == 0 ? random.nextInt() : 0x35) & all, x);
     }
 
     private static int ofClass(SongSquares x, int which, int[] a) {
