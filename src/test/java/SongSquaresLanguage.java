@@ -85,6 +85,7 @@ public final class SongSquaresLanguage {
         sample(2, "public int f() { Runnable r = () -> { }; return 1; }");
         sample(2, "public int f() { class Local { } return 1; }");
         sample(2, "private Object o = new Object() { };");
+        sample(2, "public int f() { Runnable r = Sample::new; return 1; }");
         sample(3, "private final int[][][] a = new int[1][1][1];");
         sample(3, "private final Long a = 1L;");
         sample(3, "public int f() { var a = new StringBuffer(); return 1; }");
@@ -92,6 +93,7 @@ public final class SongSquaresLanguage {
         sample(4, "public int f() { return (int) System.nanoTime(); }");
         sample(4, "private final String a = \"" + (char) 233 + "\";");
         sample(4, "// " + (char) 233 + "\n");
+        sample(4, "@Deprecated public int f() { return 1; }");
         sample(5, "private static int a = 1;");
         sample(5, "static { int a = 1; }");
         sample(6, "public int f() { throw new IllegalStateException(); }");
@@ -100,9 +102,11 @@ public final class SongSquaresLanguage {
         sample(6, "public int f() { synchronized (this) { return 1; } }");
         sample(6, "public int f() throws Exception { return 1; }");
         sample(6, "@Override public String toString() { return null; }");
+        sample(6, "private static class A { } private A a; public int f() { a = (A) a; return 1; }");
         sample(8, "public int f(int a) { return g(a); } private int g(int a) { return a > 0 ? f(a - 1) : 0; }");
         sample(9, "public int f(int a) { for (;;) { if (a++ > 5) { return 1; } } }");
         sample(9, "public int f(int a) { while (true) { if (a++ > 5) { return 1; } } }");
+        sample(9, "public int f(int a) { do { if (a++ > 5) { return 1; } } while (true); }");
         sample(10, "public int f(int a) { String b = \"a\" + a; return b.length(); }");
         sample(11, "public int f(int a, int b, int c, int d, int e, int g, int h, int i) { return a; }");
         sample(11, "public int f() {" + "\n".repeat(60) + "return 1; }");
@@ -114,6 +118,11 @@ public final class SongSquaresLanguage {
         sample(13, "public native int f();");
         sample(12, "public int f() { int[] a = new int[1]; return a.length; }");
         sample(12, "private static class A { } public int f() { return new A() == null ? 1 : 0; }");
+        whole(0, "public final class Sample { }");
+        whole(1, "package song; public final class Sample { }");
+        whole(1, "public class Sample { }");
+        whole(1, "public final class Sample { } final class Other { }");
+        whole(4, "import java.util.List; public final class Sample { }");
     }
 
     /** Methods that call one another, so many deep. */
@@ -131,11 +140,15 @@ public final class SongSquaresLanguage {
         for (int i = 0; i < body.length(); i++) {
             numbered.append(body.charAt(i) == '#' ? String.valueOf(i) : String.valueOf(body.charAt(i)));
         }
-        List<String> found = faults("Sample", "public final class Sample { " + numbered + " }");
+        whole(rule, "public final class Sample { " + numbered + " }");
+    }
+
+    private static void whole(int rule, String source) throws IOException {
+        List<String> found = faults("Sample", source);
         boolean seen = rule == 0 ? found.isEmpty() : found.stream().anyMatch(fault -> fault.startsWith("rule " + rule + ":"));
         if (!seen) {
             wrong++;
-            System.out.println("the check of rule " + rule + " does not see " + body + ", but " + found);
+            System.out.println("the check of rule " + rule + " does not see " + source + ", but " + found);
         }
     }
 
